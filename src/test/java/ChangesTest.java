@@ -5,13 +5,13 @@ public final class ChangesTest {
     private static final Due DUE = new Due();
 
     public static void main(String[] args) {
-        newObject();
-        set();
-        weight();
-        complement();
-        exchange();
-        turn();
-        objectsAreApart();
+        DUE.test("newObject", ChangesTest::newObject);
+        DUE.test("set", ChangesTest::set);
+        DUE.test("weight", ChangesTest::weight);
+        DUE.test("complement", ChangesTest::complement);
+        DUE.test("exchange", ChangesTest::exchange);
+        DUE.test("turn", ChangesTest::turn);
+        DUE.test("objectsAreApart", ChangesTest::objectsAreApart);
         DUE.end();
     }
 

@@ -5,13 +5,13 @@ public final class CountsTest {
     private static final Due DUE = new Due();
 
     public static void main(String[] args) {
-        cells();
-        rooks();
-        hits();
-        through();
-        sum();
-        signedSum();
-        wrongCounts();
+        DUE.test("cells", CountsTest::cells);
+        DUE.test("rooks", CountsTest::rooks);
+        DUE.test("hits", CountsTest::hits);
+        DUE.test("through", CountsTest::through);
+        DUE.test("sum", CountsTest::sum);
+        DUE.test("signedSum", CountsTest::signedSum);
+        DUE.test("wrongCounts", CountsTest::wrongCounts);
         DUE.end();
     }
 

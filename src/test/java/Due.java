@@ -9,6 +9,16 @@ final class Due {
         }
     }
 
+    /** One test of its own: what it throws is a wrong answer too, and the tests after it still run. */
+    void test(String name, Runnable body) {
+        try {
+            body.run();
+        } catch (Throwable thrown) {
+            wrong++;
+            System.out.println(name + " threw " + thrown);
+        }
+    }
+
     /** Ends the program with exit code 1 if an answer was wrong. */
     void end() {
         if (wrong != 0) {
@@ -57,5 +67,63 @@ final class Due {
             }
         }
         return w;
+    }
+
+    static RookBoards full(int n) {
+        RookBoards x = new RookBoards(n);
+        x.complement();
+        return x;
+    }
+
+    /** The cells whose row is their column. */
+    static RookBoards diagonal(int n) {
+        RookBoards x = new RookBoards(n);
+        for (int r = 0; r < n; r++) {
+            x.set(7 * r, 1);
+        }
+        return x;
+    }
+
+    /** Whether the cell is one of the n times n ones. */
+    static boolean isCell(int n, int cell) {
+        return cell >= 0 && cell < 36 && cell / 6 < n && cell % 6 < n;
+    }
+
+    static boolean isMarkedOn(int cell) {
+        return (cell * cell + cell / 6) % 3 != 1;
+    }
+
+    static int markedWeight(int cell) {
+        return cell % 2 == 0 ? 100 + cell : -100 - cell;
+    }
+
+    /** An uneven board whose weights are all different, made in at most 72 calls. */
+    static RookBoards marked(int n) {
+        RookBoards x = new RookBoards(n);
+        for (int r = 0; r < n; r++) {
+            for (int c = 0; c < n; c++) {
+                x.set(6 * r + c, isMarkedOn(6 * r + c) ? 1 : 0);
+                x.weight(6 * r + c, markedWeight(6 * r + c));
+            }
+        }
+        return x;
+    }
+
+    /** Whether an object still is as marked made it. Uses it up: 144 calls, and an empty board after. */
+    void isStillMarked(String what, RookBoards x, int n) {
+        for (int r = 0; r < n; r++) {
+            for (int c = 0; c < n; c++) {
+                int cell = 6 * r + c;
+                same(what + ", then set(" + cell + ", 0)", x.set(cell, 0), isMarkedOn(cell) ? 1 : 0);
+            }
+        }
+        for (int r = 0; r < n; r++) {
+            for (int c = 0; c < n; c++) {
+                int cell = 6 * r + c;
+                x.set(cell, 1);
+                same(what + ", then the weight of cell " + cell, x.sum(1), markedWeight(cell));
+                x.set(cell, 0);
+            }
+        }
     }
 }
