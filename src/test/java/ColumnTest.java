@@ -7,28 +7,23 @@ public final class ColumnTest {
     public static void main(String[] args) {
         RookBoards x = Due.board("#.#", "##.", "..#");
         // Each text has the columns of one placement by rows, 3 for none, in the document's order.
-        are("three by three", x, 0, "333");
-        are("three by three", x, 1, "033", "233", "303", "313", "332");
-        are("three by three", x, 2, "013", "032", "203", "213", "302", "312");
-        are("three by three", x, 3, "012");
-        are("two by two", Due.board("##", "##"), 1, "02", "12", "20", "21");
-        are("two by two", Due.board("##", "##"), 2, "01", "10");
-        are("n 1", Due.board("#"), 0, "1");
-        are("n 1", Due.board("#"), 1, "0");
-        are("empty", Due.board("..", ".."), 0, "22");
-        are("empty", Due.board("..", ".."), 1);
-        are("empty", Due.board("..", ".."), 2);
+        are("three by three", x, 3, 0, "333");
+        are("three by three", x, 3, 1, "033", "233", "303", "313", "332");
+        are("three by three", x, 3, 2, "013", "032", "203", "213", "302", "312");
+        are("three by three", x, 3, 3, "012");
+        are("two by two", Due.board("##", "##"), 2, 1, "02", "12", "20", "21");
+        are("two by two", Due.board("##", "##"), 2, 2, "01", "10");
+        are("n 1", Due.board("#"), 1, 0, "1");
+        are("n 1", Due.board("#"), 1, 1, "0");
+        are("empty", Due.board("..", ".."), 2, 0, "22");
+        are("empty", Due.board("..", ".."), 2, 1);
+        are("empty", Due.board("..", ".."), 2, 2);
         lastOfFull();
         wrongArguments();
         DUE.end();
     }
 
-    private static void are(String name, RookBoards x, int k, String... placements) {
-        int n = 0;
-        while (x.rooks(n) != -1) {
-            n++;
-        }
-        n--;
+    private static void are(String name, RookBoards x, int n, int k, String... placements) {
         for (int r = 0; r < n; r++) {
             for (int i = 0; i < placements.length; i++) {
                 String call = "16: " + name + ", column(" + k + ", " + i + ", " + r + ")";
